@@ -131,8 +131,14 @@ public final class FringeBench {
             return false;
         }
         now.copy(images[k]);
-        Arrays.fill(isFound, false);
+        wipe(isFound);
         return true;
+    }
+
+    private static void wipe(boolean[] marks) {
+        for (int i = 0; i < marks.length; i++) {
+            marks[i] = false;
+        }
     }
 
     // ---- what is there
@@ -578,7 +584,7 @@ public final class FringeBench {
             Arrays.fill(steps, 0);
             Arrays.fill(weights, 1);
             Arrays.fill(phases, NONE);
-            Arrays.fill(holes, false);
+            wipe(holes);
         }
 
         void copy(Picture from) {
@@ -588,7 +594,9 @@ public final class FringeBench {
             System.arraycopy(from.steps, 0, steps, 0, steps.length);
             System.arraycopy(from.weights, 0, weights, 0, weights.length);
             System.arraycopy(from.phases, 0, phases, 0, phases.length);
-            System.arraycopy(from.holes, 0, holes, 0, holes.length);
+            for (int pixel = 0; pixel < MOST_PIXELS; pixel++) {
+                holes[pixel] = from.holes[pixel];
+            }
         }
 
         int size() {
@@ -721,7 +729,7 @@ public final class FringeBench {
             place = NONE;
             told.clear();
             trial.limits = 0;
-            Arrays.fill(mentioned, false);
+            wipe(mentioned);
             boolean goesOn = true;
             for (int line = 0; goesOn && line <= length; line++) {
                 next();
@@ -1110,8 +1118,8 @@ public final class FringeBench {
         /** Walks through all parts, the least pixel that can be reached first, and numbers them. */
         void walk() {
             parts = 0;
-            Arrays.fill(isWalked, false);
-            Arrays.fill(isNear, false);
+            wipe(isWalked);
+            wipe(isNear);
             for (int i = 0; i < size; i++) {
                 int pixel = nextToWalk();
                 if (pixel == NONE) {

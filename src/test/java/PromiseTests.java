@@ -693,6 +693,12 @@ public final class PromiseTests {
         kit.due("without fours", x.paired(0), 0);
         // In the midst of 5 by 5 alone, 2 from the edge.
         FringeBench y = Kit.withPictures("size 5 5;phase 6 0 100;phase 11 300 200;", "size 5 5;phase 12 0 100;phase 17 300 200;");
+        // All 16 fours, 8 of each kind, each beside one of the other kind.
+        String all = "0 100 0 100 0 300 200 300 200 300 ";
+        FringeBench z = Kit.withPictures("size 5 5;phase 0 " + all + all + "0 100 0 100 0;");
+        kit.due("all that are 1", z.picture(0, 5), 8);
+        kit.due("all that are -1", z.picture(0, 6), 8);
+        kit.due("all 16", z.paired(0), 8);
         kit.due("1, 1", y.paired(0), 2);
         kit.due("2, 2", y.paired(1), 2);
     }
