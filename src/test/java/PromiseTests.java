@@ -49,14 +49,6 @@ public final class PromiseTests {
         tests.kit.finish();
     }
 
-    private static String repeated(String part, int times) {
-        StringBuilder all = new StringBuilder();
-        for (int i = 0; i < times; i++) {
-            all.append(part);
-        }
-        return all.toString();
-    }
-
     // promise 1
     private void newObject() {
         FringeBench x = new FringeBench();
@@ -139,99 +131,89 @@ public final class PromiseTests {
         kit.due("two tests", x.count(1), 2);
     }
 
-    private void faulty(int sort, String text, int fault, int place) {
-        FringeBench x = new FringeBench();
-        kit.due("'" + text + "'", Kit.tell(x, sort, text), fault == 0 ? 0 : NONE);
-        kit.due("'" + text + "' fault", x.fault(0), fault);
-        kit.due("'" + text + "' place", x.fault(1), place);
-        kit.due("'" + text + "' what 2", x.fault(2), NONE);
-        kit.due("'" + text + "' what -1", x.fault(-1), NONE);
-        kit.due("'" + text + "' count", x.count(sort), fault == 0 ? 1 : 0);
-    }
-
     // promise 5, fault 1
     private void syntaxFaults() {
-        faulty(0, "", 0, NONE);
-        faulty(0, " \n ", 0, NONE);
-        faulty(0, "size3 3;least0004;", 0, NONE);
-        faulty(0, "size\n3 3 ; \n", 0, NONE);
-        faulty(0, "size 3 3", 1, 8);
-        faulty(0, "size 3 3  ", 1, 10);
-        faulty(0, "size 3;", 1, 6);
-        faulty(0, "size 3 3 3;", 1, 9);
-        faulty(0, "sizes 3 3;", 1, 0);
-        faulty(0, " siz 3 3;", 1, 1);
-        faulty(0, ";", 1, 0);
-        faulty(0, "3;", 1, 0);
-        faulty(0, "step 0 0;", 1, 8);
-        faulty(0, "step 0 0 1;;", 1, 11);
-        faulty(0, "phase 0;", 1, 7);
-        faulty(0, "hole;", 1, 4);
-        faulty(0, "weight 1;", 1, 8);
-        faulty(0, "weight 1 2 3;", 1, 11);
-        faulty(0, "least 1 1;", 1, 8);
-        faulty(0, "least 10000;", 1, 6);
-        faulty(0, "least 00001;", 1, 6);
-        faulty(0, "least\t1;", 1, 5);
-        faulty(0, "least -1;", 1, 6);
-        faulty(0, "leastA1;", 1, 5);
-        faulty(0, "Least 1;", 1, 0);
-        faulty(0, "least 1;\u00e9", 1, 8);
-        faulty(0, "cost 1;", 1, 0);
-        faulty(0, "least 0;size", 1, 12);
-        faulty(0, "hole 25 size", 1, 8);
-        faulty(1, "size 3 3;", 1, 0);
-        faulty(1, "cost;", 1, 4);
-        faulty(1, "cost 1 1;", 1, 7);
-        faulty(1, "cost 99999;", 1, 5);
-        faulty(1, "cost 9999;", 0, NONE);
-        faulty(1, repeated("cost 1;", 9) + "x", 1, 63);
+        kit.faulty(0, "", 0, NONE);
+        kit.faulty(0, " \n ", 0, NONE);
+        kit.faulty(0, "size3 3;least0004;", 0, NONE);
+        kit.faulty(0, "size\n3 3 ; \n", 0, NONE);
+        kit.faulty(0, "size 3 3", 1, 8);
+        kit.faulty(0, "size 3 3  ", 1, 10);
+        kit.faulty(0, "size 3;", 1, 6);
+        kit.faulty(0, "size 3 3 3;", 1, 9);
+        kit.faulty(0, "sizes 3 3;", 1, 0);
+        kit.faulty(0, " siz 3 3;", 1, 1);
+        kit.faulty(0, ";", 1, 0);
+        kit.faulty(0, "3;", 1, 0);
+        kit.faulty(0, "step 0 0;", 1, 8);
+        kit.faulty(0, "step 0 0 1;;", 1, 11);
+        kit.faulty(0, "phase 0;", 1, 7);
+        kit.faulty(0, "hole;", 1, 4);
+        kit.faulty(0, "weight 1;", 1, 8);
+        kit.faulty(0, "weight 1 2 3;", 1, 11);
+        kit.faulty(0, "least 1 1;", 1, 8);
+        kit.faulty(0, "least 10000;", 1, 6);
+        kit.faulty(0, "least 00001;", 1, 6);
+        kit.faulty(0, "least\t1;", 1, 5);
+        kit.faulty(0, "least -1;", 1, 6);
+        kit.faulty(0, "leastA1;", 1, 5);
+        kit.faulty(0, "Least 1;", 1, 0);
+        kit.faulty(0, "least 1;\u00e9", 1, 8);
+        kit.faulty(0, "cost 1;", 1, 0);
+        kit.faulty(0, "least 0;size", 1, 12);
+        kit.faulty(0, "hole 25 size", 1, 8);
+        kit.faulty(1, "size 3 3;", 1, 0);
+        kit.faulty(1, "cost;", 1, 4);
+        kit.faulty(1, "cost 1 1;", 1, 7);
+        kit.faulty(1, "cost 99999;", 1, 5);
+        kit.faulty(1, "cost 9999;", 0, NONE);
+        kit.faulty(1, Kit.repeated("cost 1;", 9) + "x", 1, 63);
     }
 
     // promise 5, fault 2
     private void numberFaults() {
-        faulty(0, "size 1 2;", 2, 5);
-        faulty(0, "size 2 6;", 2, 7);
-        faulty(0, "size 2 5;", 0, NONE);
-        faulty(0, "size 5 2;", 0, NONE);
-        faulty(0, "step 4 0 1;", 2, 5);
-        faulty(0, "step 3 0 1;", 0, NONE);
-        faulty(0, "step 0 25 1;", 2, 7);
-        faulty(0, "step 0 0 100;", 2, 9);
-        faulty(0, "step 0 0 99 0 99;", 0, NONE);
-        faulty(0, "size 5 5;step 0 23 1 1;", 0, NONE);
-        faulty(0, "size 5 5;step 0 23 1 1 1;", 2, 23);
-        faulty(0, "phase 0 400;", 2, 8);
-        faulty(0, "phase 0 399;", 0, NONE);
-        faulty(0, "phase 24 1 1;", 2, 11);
-        faulty(0, "hole 0 25;", 2, 7);
-        faulty(0, "weight 25 1;", 2, 7);
-        faulty(0, "weight 0 0;", 2, 9);
-        faulty(0, "weight 0 10;", 2, 9);
-        faulty(0, "weight 0 9;", 0, NONE);
-        faulty(0, "least 0;", 2, 6);
-        faulty(0, "least 199;", 2, 6);
-        faulty(0, "least 198;", 0, NONE);
-        faulty(0, "least 0;size 9 9;", 2, 6);
-        faulty(0, "hole 24;least 0;", 2, 14);
+        kit.faulty(0, "size 1 2;", 2, 5);
+        kit.faulty(0, "size 2 6;", 2, 7);
+        kit.faulty(0, "size 2 5;", 0, NONE);
+        kit.faulty(0, "size 5 2;", 0, NONE);
+        kit.faulty(0, "step 4 0 1;", 2, 5);
+        kit.faulty(0, "step 3 0 1;", 0, NONE);
+        kit.faulty(0, "step 0 25 1;", 2, 7);
+        kit.faulty(0, "step 0 0 100;", 2, 9);
+        kit.faulty(0, "step 0 0 99 0 99;", 0, NONE);
+        kit.faulty(0, "size 5 5;step 0 23 1 1;", 0, NONE);
+        kit.faulty(0, "size 5 5;step 0 23 1 1 1;", 2, 23);
+        kit.faulty(0, "phase 0 400;", 2, 8);
+        kit.faulty(0, "phase 0 399;", 0, NONE);
+        kit.faulty(0, "phase 24 1 1;", 2, 11);
+        kit.faulty(0, "hole 0 25;", 2, 7);
+        kit.faulty(0, "weight 25 1;", 2, 7);
+        kit.faulty(0, "weight 0 0;", 2, 9);
+        kit.faulty(0, "weight 0 10;", 2, 9);
+        kit.faulty(0, "weight 0 9;", 0, NONE);
+        kit.faulty(0, "least 0;", 2, 6);
+        kit.faulty(0, "least 199;", 2, 6);
+        kit.faulty(0, "least 198;", 0, NONE);
+        kit.faulty(0, "least 0;size 9 9;", 2, 6);
+        kit.faulty(0, "hole 24;least 0;", 2, 14);
     }
 
     // promise 5, faults 3 and 4
     private void laterFaults() {
-        faulty(1, repeated("cost 1;", 8), 0, NONE);
-        faulty(1, repeated("cost 1;", 9), 3, 56);
-        faulty(1, repeated("cost 1;", 8) + " \nlost 1; high 2;", 3, 58);
-        faulty(0, "hole 9;", 4, 7);
-        faulty(0, "hole 8; ", 0, NONE);
-        faulty(0, "hole 9;  ", 4, 9);
-        faulty(0, "weight 9 1;", 4, 11);
-        faulty(0, "phase 9 0;", 4, 10);
-        faulty(0, "phase 8 0 0;", 4, 12);
-        faulty(0, "step 0 9 0;", 4, 11);
-        faulty(0, "step 0 8 0 0;", 4, 13);
-        faulty(0, "size 2 2;phase 3 1 1;", 4, 21);
-        faulty(0, "hole 9;size 5 2;", 0, NONE);
-        faulty(0, "size 5 2;hole 9;size 3 3;", 4, 25);
+        kit.faulty(1, Kit.repeated("cost 1;", 8), 0, NONE);
+        kit.faulty(1, Kit.repeated("cost 1;", 9), 3, 56);
+        kit.faulty(1, Kit.repeated("cost 1;", 8) + " \nlost 1; high 2;", 3, 58);
+        kit.faulty(0, "hole 9;", 4, 7);
+        kit.faulty(0, "hole 8; ", 0, NONE);
+        kit.faulty(0, "hole 9;  ", 4, 9);
+        kit.faulty(0, "weight 9 1;", 4, 11);
+        kit.faulty(0, "phase 9 0;", 4, 10);
+        kit.faulty(0, "phase 8 0 0;", 4, 12);
+        kit.faulty(0, "step 0 9 0;", 4, 11);
+        kit.faulty(0, "step 0 8 0 0;", 4, 13);
+        kit.faulty(0, "size 2 2;phase 3 1 1;", 4, 21);
+        kit.faulty(0, "hole 9;size 5 2;", 0, NONE);
+        kit.faulty(0, "size 5 2;hole 9;size 3 3;", 4, 25);
     }
 
     private void laterOnesStrike() {
