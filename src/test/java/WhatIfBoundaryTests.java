@@ -253,10 +253,10 @@ public final class WhatIfBoundaryTests {
 
     private void flatsOutsideOfTheRowAreNone() {
         for (int w = 2; w <= 5; w++) {
-            FringeBench b = Kit.withPictures("size " + w + " 3;phase 0" + Kit.repeated(" 7", 3 * w) + ";");
-            for (int y = -1; y <= 5; y++) {
-                for (int x = -1; x <= 5; x++) {
-                    boolean inside = x >= 0 && x < w && y >= 0 && y < 3;
+            FringeBench b = Kit.withPictures("size " + w + " 5;phase 0" + Kit.repeated(" 7", 5 * w) + ";");
+            for (int y = -1; y <= 6; y++) {
+                for (int x = -1; x <= 6; x++) {
+                    boolean inside = x >= 0 && x < w && y >= 0 && y < 5;
                     kit.due(w + " wide, " + x + ", " + y, b.flat(0, 0, 0, y, x, 0), inside ? 14 : NO_HEIGHT);
                 }
             }
@@ -305,6 +305,24 @@ public final class WhatIfBoundaryTests {
         }
     }
 
+    // ---- a smaller picture in the place of a greater one
+
+    private void nothingIsLeftOfAGreaterPicture() {
+        FringeBench x = Kit.withPictures(ZEROS + "weight 24 9;");
+        kit.due("all are asked for", x.picture(0, 12) + x.solid(0, 9) + x.out(0, 24, false), 26);
+        Kit.retell(x, 0, 0, "size 2 2;phase 0 0 100 300 200;");
+        kit.due("THERE", x.picture(0, 3), 4);
+        kit.due("SURE", x.picture(0, 12), 1);
+        kit.due("COST", x.picture(0, 7), 1);
+        kit.due("a pixel beyond", x.height(0, 4, 3), NO_HEIGHT);
+        kit.due("its OUT", x.out(0, 24, false), NONE);
+        kit.due("FLATS beyond", x.flat(0, 0, 0, 2, 0, 0), NO_HEIGHT);
+        kit.due("ROUND beyond", x.round(0, 0, 0, 2, 2), -100);
+        kit.due("COMMON", x.stitch(0, 0, 0, 0, 0), 4);
+        kit.due("SOLID", x.solid(0, 1) * 10 + x.solid(0, 9), 10);
+        kit.due("ABOVE", x.above(0, LEAST), 4);
+    }
+
     // ---- promise 18: DRAWN
 
     /** By longs: the PHASES of all together, of so many that are THERE. */
@@ -341,6 +359,17 @@ public final class WhatIfBoundaryTests {
             for (int k = 1; k <= 20; k++) {
                 kit.due("seed " + seed + ", " + k, x.drawn(0, seed, k, 2), drawnSum(phases, seed, k));
             }
+        }
+    }
+
+    private void all25MayBeDrawn() {
+        FringeBench x = Kit.withPictures(SLOPE);
+        int[] phases = new int[25];
+        for (int pixel = 0; pixel < 25; pixel++) {
+            phases[pixel] = pixel % 5 * 10 + pixel / 5 * 20;
+        }
+        for (int seed = 0; seed < 20; seed++) {
+            kit.due("seed " + seed, x.drawn(0, seed, 20, 2), drawnSum(phases, seed, 20));
         }
     }
 
@@ -485,6 +514,14 @@ public final class WhatIfBoundaryTests {
         kit.due("from 399 to 300", x.tough(0, 1), 301);
         kit.due("from 399 to 0", x.tough(1, 1), 1);
         kit.due("from 0 to 399", x.tough(2, 1), 399);
+    }
+
+    private void toughIsByThoseOnEachSide() {
+        // Each time only one DIFFERENCE goes over: to the one above, left, right, below.
+        kit.due("above", Kit.withPictures("size 2 2;phase 0 0 0 100 199;").tough(0, 3), 1);
+        kit.due("left", Kit.withPictures("size 2 2;phase 0 0 100 0 199;").tough(0, 3), 1);
+        kit.due("right", Kit.withPictures("size 2 2;phase 0 200 0 100 50;").tough(0, 0), 1);
+        kit.due("below", Kit.withPictures("size 2 2;phase 0 200 100 0 50;").tough(0, 0), 1);
     }
 
     private void toughByNoneIsNone() {
